@@ -91,7 +91,10 @@ public final class PromisesTest {
     private static void aliases() {
         Counted x = new Counted();
         Checks.due("alias iw=he", Checks.alias(x, "IW=he", false), 1);
-        Checks.due("nothing is typed behind an alias", x.read(), -1000);
+        Checks.due("type behind an alias", x.type('e'), true);
+        Checks.due("nothing else is typed", x.read(), -1000);
+        Checks.due("type again", x.type('n') && x.type('-'), true);
+        Checks.due("nothing else is typed", x.read(), -1003);
         Checks.due("alias he=heb", Checks.alias(x, "he=heb", false), 2);
         Checks.due("alias of a region", Checks.alias(x, "su=RU", true), 3);
         Checks.due("alias of a region in digits", Checks.alias(x, "810=su", true), 4);
@@ -278,7 +281,8 @@ public final class PromisesTest {
     private static void pairs() {
         Counted x = new Counted();
         Checks.due("likely", Checks.likely(x, "EN=en_latn_us"), 1);
-        Checks.due("nothing is typed then", x.read(), -1000);
+        Checks.due("type behind a pair", x.type('e') && x.type('n') && x.type('-'), true);
+        Checks.due("nothing else is typed", x.read(), -1003);
         Checks.due("likely from itself", Checks.likely(x, "de-Latn-DE=de-Latn-DE"), 2);
         Checks.due("likely from und", Checks.likely(x, "und-Cyrl=ru-Cyrl-RU"), 3);
         Checks.due("parent counts by itself", Checks.parent(x, "en-AU=en-GB"), 1);
@@ -294,6 +298,9 @@ public final class PromisesTest {
         Checks.due("parent is full", Checks.parent(x, "bb=zz"), -2);
         Checks.due("wrong when full", Checks.parent(x, "bb=bb"), -1);
         Checks.due("pairs read no tags", x.tags(), 0);
+        Checks.due("read of one without pairs", Checks.read(x, "fr-Latn"), 0);
+        Checks.due("no pair leads from it", Checks.show(x, 0, 2), "fr-Latn");
+        Checks.due("no value", x.get(0, 0), 0);
         Counted late = new Counted();
         Checks.read(late, "en");
         Checks.due("likely behind a tag", Checks.likely(late, "en=en-Latn-US"), 1);
