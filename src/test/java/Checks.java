@@ -2,15 +2,21 @@
 final class Checks {
     private static int wrong = 0;
     private static int made = 0;
+    private static String sentence = "";
 
     private Checks() {
+    }
+
+    /** The sentence of the document that the checks behind this belong to. */
+    static void about(String words) {
+        sentence = words + " | ";
     }
 
     static void due(String what, long got, long want) {
         made++;
         if (got != want) {
             wrong++;
-            System.out.println(what + " answered " + got + ", due is " + want);
+            System.out.println(sentence + what + " answered " + got + ", due is " + want);
         }
     }
 
@@ -22,7 +28,8 @@ final class Checks {
         made++;
         if (!got.equals(want)) {
             wrong++;
-            System.out.println(what + " answered \"" + got + "\", due is \"" + want + "\"");
+            System.out.println(sentence + what + " answered \"" + got + "\", due is \"" + want
+                    + "\"");
         }
     }
 
