@@ -32,6 +32,7 @@ public final class PromiseEdgesTest {
         pairWhichRefusal();
         showNoTag();
         showNoKind();
+        showKinds();
         showLength();
         shownNone();
         tagsCount();
@@ -46,6 +47,7 @@ public final class PromiseEdgesTest {
         fitsInTurn();
         lookupNone();
         lookupOnlySupported();
+        lookupByTruncatingAlone();
         distanceNone();
         bestNone();
         bestFifty();
@@ -407,6 +409,17 @@ public final class PromiseEdgesTest {
         }
     }
 
+    private static void showKinds() {
+        Checks.about("7: the form (kind 0), the short form (1), the maximised (2), the minimised (3)");
+        Counted x = new Counted();
+        Checks.likely(x, "en=en-Latn-US");
+        Checks.read(x, "en-us-rozaj");
+        String[] due = {"en-US-rozaj", "en-US", "en-Latn-US", "en"};
+        for (int kind = 0; kind < 4; kind++) {
+            Checks.due("kind " + kind, Checks.show(x, 0, kind), due[kind]);
+        }
+    }
+
     private static void showLength() {
         Checks.about("7: how many characters that has");
         Counted x = reading("en", "en-x" + "-1".repeat(28), "en-Latn-US-rozaj");
@@ -593,6 +606,21 @@ public final class PromiseEdgesTest {
         Counted sixty = reading("en-x" + "-1".repeat(28), "en");
         sixty.support(1);
         Checks.due("from the longest to the language", sixty.lookup(0), 1);
+    }
+
+    private static void lookupByTruncatingAlone() {
+        Checks.about("12: or else that truncated again, and so on: no pair leads there");
+        Counted x = new Counted();
+        Checks.parent(x, "en-US=de");
+        Checks.parent(x, "en=de");
+        Checks.likely(x, "en=en-Latn-US");
+        int us = Checks.read(x, "en-US");
+        x.support(Checks.read(x, "de"));
+        x.support(Checks.read(x, "en-Latn-US"));
+        Checks.due("neither parent nor likely", x.lookup(us), -1);
+        int en = Checks.read(x, "en");
+        x.support(en);
+        Checks.due("truncated", x.lookup(us), en);
     }
 
     private static void distanceNone() {
